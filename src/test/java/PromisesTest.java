@@ -30,6 +30,7 @@ public final class PromisesTest {
         promise14Since();
         promise14SinceAndForget();
         versionsNeverChange();
+        fullVersionsStayApart();
         objectsAreApart();
         callsThatAskChangeNothing();
         System.out.println(wrong == 0 ? "all answers are as due" : wrong + " answers are not as due");
@@ -548,6 +549,25 @@ public final class PromisesTest {
             due("sum in " + version, x.sum(MIN, MAX, version), (last + first) * (last - first + 1) / 2);
             due("first in " + version, x.keyAt(0, version), last < first ? MvbTree.NONE : 100 - last);
         }
+    }
+
+    // At both bounds at once: 41 kept versions with 28 or 27 keys each, erased and put at the low end.
+    private static void fullVersionsStayApart() {
+        MvbTree x = fullStore();
+        due("forget down to the full version", x.forget(28), 0);
+        due("put old", x.put(280, 28), 29);
+        for (int version = 30; version <= 68; version++) {
+            int got = version % 2 == 0 ? x.erase(10) : x.put(10, 1);
+            due("change of a full version", got, version);
+        }
+        for (int version = 28; version <= 68; version++) {
+            boolean isErased = version >= 30 && version % 2 == 0;
+            due("count in " + version, x.count(MIN, MAX, version), isErased ? 27 : 28);
+            due("sum in " + version, x.sum(MIN, MAX, version), isErased ? 405 : 406);
+            due("first in " + version, x.keyAt(0, version), isErased ? 20 : 10);
+            due("last in " + version, x.keyAt(isErased ? 26 : 27, version), 280);
+        }
+        due("one change too many", x.put(10, 1), MvbTree.HISTORY_FULL);
     }
 
     private static void objectsAreApart() {
