@@ -5,7 +5,10 @@ import java.lang.reflect.Modifier;
 import java.nio.file.Files;
 import java.nio.file.Path;
 import java.util.HashSet;
+import java.util.Map;
 import java.util.Set;
+import java.util.TreeMap;
+import java.util.TreeSet;
 import java.util.regex.Matcher;
 import java.util.regex.Pattern;
 
@@ -22,6 +25,9 @@ public final class LanguageTest {
         arraysAreMadeInFields(code);
         fieldsAreNumbersAndArrays();
         methodNamesAreApart();
+        methodsAreShort(code);
+        callsAreShallow(code);
+        noCallInArguments(code);
         noCallThrows();
         System.out.println(wrong == 0 ? "the rules are kept" : wrong + " rules are broken");
         if (wrong != 0) {
@@ -71,6 +77,7 @@ public final class LanguageTest {
     }
 
     private static void fieldsAreNumbersAndArrays() {
+        int beside = 0;
         for (Field field : MvbTree.class.getDeclaredFields()) {
             Class<?> type = field.getType();
             boolean isStatic = Modifier.isStatic(field.getModifiers());
@@ -79,6 +86,10 @@ public final class LanguageTest {
             if (!fits) {
                 broken("field " + field);
             }
+            beside += isStatic ? 0 : 1;
+        }
+        if (beside > 40) {
+            broken("fields beside the constants: " + beside);
         }
     }
 
@@ -92,6 +103,84 @@ public final class LanguageTest {
                 broken("more than seven parameters: " + method.getName());
             }
         }
+    }
+
+    // By name, which no two of them share; the constructor is left out, it calls nothing.
+    private static Map<String, String> bodies(String code) {
+        Matcher method = Pattern.compile("\n    (?:public|private) (?:static )?[\\w\\[\\]]+ (\\w+)\\([^)]*\\) \\{"
+                + "(.*?)\n    \\}", Pattern.DOTALL).matcher(code);
+        Map<String, String> bodies = new TreeMap<>();
+        while (method.find()) {
+            bodies.put(method.group(1), method.group(2));
+        }
+        return bodies;
+    }
+
+    private static void methodsAreShort(String code) {
+        Map<String, String> bodies = bodies(code);
+        for (Method method : MvbTree.class.getDeclaredMethods()) {
+            String body = bodies.get(method.getName());
+            if (body == null) {
+                broken("this test can't read " + method.getName());
+            } else if (body.lines().count() > 60) {
+                broken("more than sixty lines: " + method.getName());
+            }
+        }
+    }
+
+    // Methods that call none have depth 1; what is called in a circle never gets a depth.
+    private static void callsAreShallow(String code) {
+        Map<String, Set<String>> open = new TreeMap<>();
+        Map<String, String> bodies = bodies(code);
+        bodies.forEach((name, body) -> open.put(name, called(body, bodies.keySet())));
+        for (int depth = 1; depth <= 6; depth++) {
+            Set<String> ready = new TreeSet<>();
+            open.forEach((name, called) -> {
+                if (called.isEmpty()) {
+                    ready.add(name);
+                }
+            });
+            open.keySet().removeAll(ready);
+            open.values().forEach(called -> called.removeAll(ready));
+        }
+        if (!open.isEmpty()) {
+            broken("more than six calls deep, or in a circle: " + open.keySet());
+        }
+    }
+
+    private static Set<String> called(String body, Set<String> names) {
+        Set<String> called = new TreeSet<>();
+        Matcher call = Pattern.compile("\\b(\\w+)\\s*\\(").matcher(body);
+        while (call.find()) {
+            if (names.contains(call.group(1))) {
+                called.add(call.group(1));
+            }
+        }
+        return called;
+    }
+
+    private static void noCallInArguments(String code) {
+        Map<String, String> bodies = bodies(code);
+        bodies.forEach((name, body) -> {
+            Matcher call = Pattern.compile("\\b(\\w+)\\s*\\(").matcher(body);
+            while (call.find()) {
+                if (bodies.containsKey(call.group(1))
+                        && !called(argumentsAt(body, call.end()), bodies.keySet()).isEmpty()) {
+                    broken("a call stands in the arguments of " + call.group(1) + ", in " + name);
+                }
+            }
+        });
+    }
+
+    private static String argumentsAt(String body, int start) {
+        int open = 1;
+        int end = start;
+        while (open > 0 && end < body.length()) {
+            char letter = body.charAt(end);
+            open += letter == '(' ? 1 : letter == ')' ? -1 : 0;
+            end++;
+        }
+        return body.substring(start, end);
     }
 
     // Beyond the 512th call the answers are free, but no call may throw there either.
